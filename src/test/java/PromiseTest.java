@@ -85,6 +85,12 @@ public final class PromiseTest {
         due("count(2)", 8, x.count(2));
         due("text()", 1, x.text());
         due("end(0) behind text()", 0, x.end(0));
+        feedAll(x, "shyly");
+        x.end(3);
+        due("text(), a NAME that was cut", -13, x.text());
+        feedAll(x, "glut 123");
+        x.end(7);
+        due("text(), a NUMBER that was cut", -17, x.text());
     }
 
     private static void reads(String text, int answer, int fault) {
@@ -682,6 +688,11 @@ public final class PromiseTest {
         x = told("plain 50 0;");
         due("ask(0, 0), all apart", 1, x.ask(0, 0));
         due("ask(0, 1), all apart", 1, x.ask(0, 1));
+        x = told("plain 0 0;band 0 1;");
+        // BLIGHTS 0 to 9 end at 1 in turn; only then do all EARS lie apart.
+        x.see(1, 0, 0);
+        due("ask(0, 0), late", 9, x.ask(0, 0));
+        due("ask(0, 1), late", 1, x.ask(0, 1));
     }
 
     private static void drift() {
@@ -695,6 +706,10 @@ public final class PromiseTest {
         due("drift(0, 61, 0)", BAD, x.drift(0, 61, 0));
         due("drift(0, 1, 2)", BAD, x.drift(0, 1, 2));
         due("drift(0, 1, -1)", BAD, x.drift(0, 1, -1));
+        // 1103527590 has 16838 in bits 16 to 30, the next seed 5758: FIELDS 0 and 1.
+        due("drift(1, 1, 0)", 29, x.drift(1, 1, 0));
+        due("drift(1, 2, 0)", 37, x.drift(1, 2, 0));
+        due("drift(1, 2, 1)", 1, x.drift(1, 2, 1));
         x.leave(0);
         due("drift(0, 1, 0), no BANDS", STATE, x.drift(0, 1, 0));
         due("drift(0, 61, 0), no BANDS", BAD, x.drift(0, 61, 0));
