@@ -580,7 +580,7 @@ public final class PraisedFields {
         switch (kind) {
             case VAIN: return 2 * surplus;
             case SHY: return surplus > 0 ? surplus / 2 : surplus;
-            case DEAF: return Math.min(surplus, 0);
+            case DEAF: return surplus > 0 ? 0 : surplus;
             default: return surplus;
         }
     }
@@ -807,7 +807,7 @@ public final class PraisedFields {
 
     /** THE TAPE and the reading of it. */
     private static final class Tape {
-        private static final int ROOM = 160;
+        private static final int ROOM = 160, MOST_FIGURES = 2;
         private static final int END = 0, NAME = 1, NUMBER = 2, SEMICOLON = 3, NO_TOKEN = 4;
         // The lines of FIELDS have the numbers of their KINDS.
         private static final int BAND_LINE = 4, GLUT_LINE = 5, NO_LINE = 6;
@@ -945,39 +945,35 @@ public final class PraisedFields {
             start = place;
             if (place >= length) {
                 token = END;
-            } else if (isLetter(bytes[place])) {
-                readName();
-            } else if (isFigure(bytes[place])) {
-                readNumber();
+                return;
+            }
+            int letters = stretch('a', 'z');
+            int figures = stretch('0', '9');
+            if (letters > 0) {
+                token = NAME;
+            } else if (figures > 0) {
+                readNumber(figures);
             } else {
                 token = bytes[place] == ';' ? SEMICOLON : NO_TOKEN;
-                place++;
             }
+            place += Math.max(1, letters + figures);
         }
 
-        private void readName() {
-            while (place < length && isLetter(bytes[place])) {
-                place++;
+        /** How many bytes from the place on lie between the two. */
+        private int stretch(int first, int last) {
+            int n = 0;
+            while (place + n < length && bytes[place + n] >= first && bytes[place + n] <= last) {
+                n++;
             }
-            token = NAME;
+            return n;
         }
 
-        private void readNumber() {
+        private void readNumber(int figures) {
+            token = figures <= MOST_FIGURES ? NUMBER : NO_TOKEN;
             value = 0;
-            while (place < length && isFigure(bytes[place])) {
-                // A NUMBER of 3 figures is refused, so what more there is need not be known.
-                value = Math.min(999, value * 10 + (bytes[place] - '0'));
-                place++;
+            for (int i = 0; i < figures && i < MOST_FIGURES; i++) {
+                value = value * 10 + (bytes[start + i] - '0');
             }
-            token = place - start <= 2 ? NUMBER : NO_TOKEN;
-        }
-
-        private static boolean isLetter(int c) {
-            return within(c, 'a', 'z');
-        }
-
-        private static boolean isFigure(int c) {
-            return within(c, '0', '9');
         }
 
         private int lineBegun() {
