@@ -1,42 +1,5 @@
 /** Each promise by itself: ordinary inputs, edges, wrong inputs, with answers worked out by hand. */
-public final class PromiseTest {
-    private static final int BAD = -1, STATE = -2, FULL = -3, NONE = -4;
-    private static final int LEAST = Integer.MIN_VALUE, MOST = Integer.MAX_VALUE;
-    private static final String FOUR = "plain 10 2;vain 6 1;shy 20 3;deaf 30 0;band 0 5;band 1 2;glut 14;";
-
-    private static int wrong = 0;
-    private static int promise = 0;
-    private static int checks = 0;
-
-    private static void due(String call, long want, long got) {
-        checks++;
-        if (got != want) {
-            wrong++;
-            System.out.println("promise " + promise + ": " + call + " answered " + got + ", due is " + want);
-        }
-    }
-
-    private static void feedAll(PraisedFields x, String text) {
-        for (int i = 0; i < text.length(); i++) {
-            x.feed(text.charAt(i));
-        }
-    }
-
-    private static PraisedFields told(String text) {
-        PraisedFields x = new PraisedFields();
-        feedAll(x, text);
-        int lines = x.text();
-        if (lines < 0) {
-            wrong++;
-            System.out.println("promise " + promise + ": not taken: " + text + " (" + lines + ")");
-        }
-        return x;
-    }
-
-    private static String times(int n, String part) {
-        return part.repeat(n);
-    }
-
+public final class PromiseTest extends Bench {
     private static void newObject() {
         PraisedFields x = new PraisedFields();
         int[] rules = {0, 0, 0, 0, 0, 20, 0};
@@ -804,12 +767,6 @@ public final class PromiseTest {
         due("lay(1, 0, 0), no CELLS", -12, x.lay(1, 0, 0));
     }
 
-    private static void layRow(PraisedFields x, int k, int... cells) {
-        for (int i = 0; i < cells.length; i++) {
-            x.lay(k, i, cells[i]);
-        }
-    }
-
     private static void read() {
         PraisedFields x = told("plain 0 0;plain 0 0;plain 0 0;band 0 1;band 0 1;");
         due("read(-1, 0, 0, 0)", BAD, x.read(-1, 0, 0, 0));
@@ -892,56 +849,53 @@ public final class PromiseTest {
     }
 
     private static void firstHalf() {
-        promise = 1; newObject();
-        promise = 2; feed();
-        promise = 3; end();
-        promise = 4; textTaken(); textFaults();
-        promise = 5; faultOfLatest();
-        promise = 6; rule();
-        promise = 7; field();
-        promise = 8; band();
-        promise = 9; alter();
-        promise = 10; march();
-        promise = 11; play();
-        promise = 12; glut();
-        promise = 13; hire();
-        promise = 14; leave();
-        promise = 15; weeks(); weeksEdges(); finesByOrder();
-        promise = 16; runs();
-        promise = 17; ahead();
-        promise = 18; late();
-        promise = 19; order();
-        promise = 20; move();
+        promise(1); newObject();
+        promise(2); feed();
+        promise(3); end();
+        promise(4); textTaken(); textFaults();
+        promise(5); faultOfLatest();
+        promise(6); rule();
+        promise(7); field();
+        promise(8); band();
+        promise(9); alter();
+        promise(10); march();
+        promise(11); play();
+        promise(12); glut();
+        promise(13); hire();
+        promise(14); leave();
+        promise(15); weeks(); weeksEdges(); finesByOrder();
+        promise(16); runs();
+        promise(17); ahead();
+        promise(18); late();
+        promise(19); order();
+        promise(20); move();
     }
 
     private static void secondHalf() {
-        promise = 21; still();
-        promise = 22; need();
-        promise = 23; swap();
-        promise = 24; bear();
-        promise = 25; kind();
-        promise = 26; luck();
-        promise = 27; mean();
-        promise = 28; see();
-        promise = 29; forget();
-        promise = 30; kinds(); seenFromNowOn();
-        promise = 31; blights();
-        promise = 32; ask();
-        promise = 33; drift();
-        promise = 34; keepAndBack();
-        promise = 36; sheet();
-        promise = 37; lay();
-        promise = 38; read();
-        promise = 39; torn();
-        promise = 40; count();
+        promise(21); still();
+        promise(22); need();
+        promise(23); swap();
+        promise(24); bear();
+        promise(25); kind();
+        promise(26); luck();
+        promise(27); mean();
+        promise(28); see();
+        promise(29); forget();
+        promise(30); kinds(); seenFromNowOn();
+        promise(31); blights();
+        promise(32); ask();
+        promise(33); drift();
+        promise(34); keepAndBack();
+        promise(36); sheet();
+        promise(37); lay();
+        promise(38); read();
+        promise(39); torn();
+        promise(40); count();
     }
 
     public static void main(String[] args) {
         firstHalf();
         secondHalf();
-        System.out.println(checks + " answers, " + wrong + " of them not as due");
-        if (wrong != 0) {
-            System.exit(1);
-        }
+        finish();
     }
 }
