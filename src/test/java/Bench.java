@@ -147,9 +147,12 @@ abstract class Bench {
         alike(call + " changes nothing", trace(maker.make()), trace(x));
     }
 
-    /** A question: its answer, and that nothing is changed by it. */
+    /** A question: its answer, also when it is asked again, and that nothing is changed by it. */
     static void asked(String call, long want, Maker maker, Call c) {
         refused(call, want, maker, c);
+        PraisedFields x = maker.make();
+        c.on(x);
+        due(call + " asked again", want, c.on(x));
     }
 
     /**

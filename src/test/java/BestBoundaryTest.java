@@ -26,6 +26,27 @@ public final class BestBoundaryTest extends Bench {
         asked("order(11), one each", 1, land(two), x -> x.order(11));
     }
 
+    /** Rows in the midst of all rows, each the only one by which every FIELD is full. */
+    private static void orderedOnce() {
+        Maker crossed = land("plain60 0;plain90 0;band0 2;band1 9;");
+        asked("order(0), crossed", 198, crossed, x -> x.order(0));
+        asked("order(10), crossed", 1, crossed, x -> x.order(10));
+        asked("order(11), crossed", 0, crossed, x -> x.order(11));
+        Maker four = land("plain45 0;plain57 0;plain69 0;plain81 0;band0 3;band0 5;band0 7;band0 9;");
+        asked("order(0), four", 396, four, x -> x.order(0));
+        for (int b = 0; b < 4; b++) {
+            int what = 10 + b;
+            asked("order(" + what + "), four", 3 - b, four, x -> x.order(what));
+        }
+        PraisedFields x = crossed.make();
+        x.order(0);
+        x.alter(0, 1, 0);
+        x.alter(1, 1, 0);
+        due("order(0), less than before", 66, x.order(0));
+        due("order(10), less than before", 0, x.order(10));
+        due("order(11), less than before", 0, x.order(11));
+    }
+
     private static void orderOfABand() {
         for (int bands = 0; bands <= 4; bands++) {
             Maker maker = land(SIX + times(bands, "band0 1;"));
@@ -285,6 +306,7 @@ public final class BestBoundaryTest extends Bench {
         promise(19);
         sentence("FIELDS for all BANDS so that ALL EARS are most behind 6 WEEKS, of several the first by its row "
             + "(as numbers): ALL EARS (what 0);", BestBoundaryTest::ordered);
+        sentence("so that ALL EARS are most behind 6 WEEKS, of several the first by its row", BestBoundaryTest::orderedOnce);
         sentence("10 and b: AT which BAND b is to be (NONE: there is no such BAND).", BestBoundaryTest::orderOfABand);
         sentence("BAD (also b above 3);", BestBoundaryTest::orderBad);
         sentence("STATE: there are no FIELDS.", BestBoundaryTest::orderState);

@@ -98,8 +98,9 @@ public final class SheetBoundaryTest extends Bench {
         x.play(1, 7);
         x.glut(1);
         x.weeks(1);
-        x.forget(1);
-        x.see(2, 2, 2);
+        x.forget(0);
+        x.see(9, 1, 2);
+        x.see(11, 2, 3);
         x.leave(1);
     }
 
@@ -194,15 +195,23 @@ public final class SheetBoundaryTest extends Bench {
     /** CELLS of 1 are laid; a new row is of 0 again, be it shorter, longer or of another lane. */
     private static void newRowOver(int lane, int then) {
         String what = "lane " + lane + ", then lane " + then;
-        reads(what + ", shorter", paper(0, lane, 40, row(40, 1)), 1, 0, 0, 0, x -> {
+        reads(what + ", shorter", paper(0, lane, 40, row(40, 1)), 1, 0, 0, 2, x -> {
+            bothTo2(x);
             x.sheet(0, then, 2);
             return x.read(0, then, 0, 1);
         });
-        reads(what + ", longer again", paper(0, lane, 40, row(40, 1)), 20, 0, 0, 0, x -> {
+        reads(what + ", longer again", paper(0, lane, 40, row(40, 1)), 20, 0, 0, 2, x -> {
+            bothTo2(x);
             x.sheet(0, then, 2);
             x.sheet(0, then, 40);
             return x.read(0, then, 0, 20);
         });
+    }
+
+    /** Away from FIELD 0, so that it shows which BAND came there. */
+    private static void bothTo2(PraisedFields x) {
+        x.march(0, 2);
+        x.march(1, 2);
     }
 
     private static void sheetBad() {
@@ -296,6 +305,7 @@ public final class SheetBoundaryTest extends Bench {
         reads("read, none", paper(0, 0, 4, 0, 1, 1, 2), 0, 0, 0, 0, x -> x.read(0, 0, 0, 0));
         reads("read, one", paper(0, 0, 4, 0, 1, 1, 2), 1, 0, 1, 0, x -> x.read(0, 0, 0, 1));
         reads("read, two", paper(0, 0, 4, 0, 1, 1, 2), 2, 0, 1, 2, x -> x.read(0, 0, 0, 2));
+        reads("read, two, crossed", paper(0, 0, 4, 0, 2, 1, 1), 2, 0, 2, 1, x -> x.read(0, 0, 0, 2));
         reads("read, the later stays", paper(0, 0, 4, 0, 1, 0, 2), 2, 0, 2, 0, x -> x.read(0, 0, 0, 2));
         reads("read, from CELL 2 on", paper(0, 0, 4, 0, 1, 1, 2), 1, 0, 0, 2, x -> x.read(0, 0, 2, 1));
         reads("read, from CELL 1 on", paper(0, 0, 4, 9, 1, 1, 9), 1, 0, 0, 1, x -> x.read(0, 0, 1, 1));
@@ -352,6 +362,8 @@ public final class SheetBoundaryTest extends Bench {
             String what = " of BAND " + pair[0] + ", FIELD " + pair[1];
             Maker first = paper(0, 0, 4, pair[0], pair[1], 1, 2);
             Maker second = paper(0, 0, 4, 1, 2, pair[0], pair[1]);
+            Maker behindAnother = paper(0, 0, 4, 0, 1, pair[0], pair[1]);
+            refused("behind another" + what, -21, behindAnother, x -> x.read(0, 0, 0, 2));
             refused("the first" + what, -20, first, x -> x.read(0, 0, 0, 2));
             refused("the second" + what, -21, second, x -> x.read(0, 0, 0, 2));
             refused("the second" + what + ", ahead of INDEX", -21, second, x -> x.read(0, 0, 0, 20));
