@@ -150,6 +150,9 @@ public final class BestBoundaryTest extends Bench {
         asked("need(0, 10, 81)", 9, land(SLOW), x -> x.need(0, 10, 81));
         asked("need(0, 10, 80)", 8, land(SLOW), x -> x.need(0, 10, 80));
         asked("need(0, 11, 99)", 9, land(SLOW), x -> x.need(0, 11, 99));
+        String crossed = "plain0 0;plain10 0;band1 3;band0 9;";
+        asked("need(0, 1, 15), AT FIELD 1", 5, land(crossed), x -> x.need(0, 1, 15));
+        asked("need(1, 1, 6), AT FIELD 0", 6, land(crossed), x -> x.need(1, 1, 6));
         asked("need(0, 1, 5), by others too", 2, land("plain0 0;plain0 0;band0 9;band0 3;band1 9;"),
             x -> x.need(0, 1, 5));
     }

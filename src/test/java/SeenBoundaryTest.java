@@ -97,6 +97,7 @@ public final class SeenBoundaryTest extends Bench {
         asked("kinds(0), of another FIELD, not as it is", 0, saw(APART, 1, 1, 8), x -> x.kinds(0));
         asked("kinds(1), of another FIELD, as it is", 15, saw(APART, 1, 0, 13), x -> x.kinds(1));
         asked("kinds(1), of another FIELD, another KIND", 0, saw(APART, 1, 0, 16), x -> x.kinds(1));
+        asked("kinds(1), of another FIELD, behind 2 WEEKS", 15, saw(APART, 2, 0, 17), x -> x.kinds(1));
         asked("kinds(0), both as SEEN", 1, saw(APART, 1, 0, 13, 1, 1, 7), x -> x.kinds(0));
         asked("kinds(0), BLIGHT as it is", 0, saw("plain50 1;", 1, 0, 50), x -> x.kinds(0));
         // Six of them, the last at odds.

@@ -89,6 +89,24 @@ public final class SheetBoundaryTest extends Bench {
         }
     }
 
+    private static void imageHoldsSixSeen() {
+        PraisedFields x = told("plain0 0;plain50 0;band0 1;");
+        int[][] seen = {{1, 0, 1}, {2, 0, 2}, {3, 0, 3}, {1, 1, 50}, {2, 1, 49}, {5, 1, 40}};
+        for (int[] one : seen) {
+            x.see(one[0], one[1], one[2]);
+        }
+        due("kinds(0), six as SEEN", 1, x.kinds(0));
+        x.keep(0);
+        x.forget(0);
+        for (int i = 0; i < 6; i++) {
+            x.see(7, i < 3 ? 1 : 0, 9);
+        }
+        due("kinds(0), six at odds", 0, x.kinds(0));
+        x.back(0);
+        due("SEEN", 6, x.count(0));
+        due("kinds(0), six as SEEN again", 1, x.kinds(0));
+    }
+
     private static void change(PraisedFields x) {
         for (int what = 0; what < 3; what++) {
             x.alter(0, what, 3);
@@ -182,7 +200,9 @@ public final class SheetBoundaryTest extends Bench {
                 due("a CELL more", -12, x.lay(0, size, 1));
             }
             for (int then = 0; then < 3; then++) {
-                newRowOver(lane, then);
+                for (int k = 0; k < 4; k++) {
+                    newRowOver(k, lane, then);
+                }
             }
         }
         reads("the other SHEETS stay", paper(1, 0, 2, 0, 1), 1, 0, 1, 0, x -> {
@@ -193,18 +213,18 @@ public final class SheetBoundaryTest extends Bench {
     }
 
     /** CELLS of 1 are laid; a new row is of 0 again, be it shorter, longer or of another lane. */
-    private static void newRowOver(int lane, int then) {
-        String what = "lane " + lane + ", then lane " + then;
-        reads(what + ", shorter", paper(0, lane, 40, row(40, 1)), 1, 0, 0, 2, x -> {
+    private static void newRowOver(int k, int lane, int then) {
+        String what = "SHEET " + k + ", lane " + lane + ", then lane " + then;
+        reads(what + ", shorter", paper(k, lane, 40, row(40, 1)), 1, 0, 0, 2, x -> {
             bothTo2(x);
-            x.sheet(0, then, 2);
-            return x.read(0, then, 0, 1);
+            x.sheet(k, then, 2);
+            return x.read(k, then, 0, 1);
         });
-        reads(what + ", longer again", paper(0, lane, 40, row(40, 1)), 20, 0, 0, 2, x -> {
+        reads(what + ", longer again", paper(k, lane, 40, row(40, 1)), 20, 0, 0, 2, x -> {
             bothTo2(x);
-            x.sheet(0, then, 2);
-            x.sheet(0, then, 40);
-            return x.read(0, then, 0, 20);
+            x.sheet(k, then, 2);
+            x.sheet(k, then, 40);
+            return x.read(k, then, 0, 20);
         });
     }
 
@@ -369,6 +389,13 @@ public final class SheetBoundaryTest extends Bench {
             refused("the second" + what + ", ahead of INDEX", -21, second, x -> x.read(0, 0, 0, 20));
             reads("the second" + what + " is not read", second, 1, 0, 0, 2, x -> x.read(0, 0, 0, 1));
         }
+        for (int k = 0; k < 4; k++) {
+            int sheet = k;
+            Maker third = paper(k, 2, 8, 0, 1, 1, 2, 0, 3, 1, 0);
+            refused("the third of SHEET " + k, -22, third, x -> x.read(sheet, 2, 0, 4));
+            refused("the second of SHEET " + k + ", from CELL 2", -21, third, x -> x.read(sheet, 2, 2, 3));
+            reads("the last of SHEET " + k, third, 1, 0, 0, 0, x -> x.read(sheet, 2, 6, 1));
+        }
         int[] last = row(40, 1);
         last[39] = 3;
         refused("the last of 20", -39, paper(0, 2, 40, last), x -> x.read(0, 2, 0, 20));
@@ -492,6 +519,7 @@ public final class SheetBoundaryTest extends Bench {
         promise(34);
         sentence("IMAGE k (0, 1) is FIELDS, BANDS (all of them), GLUT, SHEAVES, WEEK, what was SEEN:",
             SheetBoundaryTest::imageHolds);
+        sentence("what was SEEN:", SheetBoundaryTest::imageHoldsSixSeen);
         sentence("whether there was one (1, 0). BAD.", SheetBoundaryTest::kept);
         promise(35);
         sentence("All is as IMAGE k: WEEK.", SheetBoundaryTest::backTo);
